@@ -602,6 +602,8 @@ public final class HueRash {
         private final int[] places = new int[3];
         private int guestHues;
         private int guestBadPlace;
+        /** The hues that pairs and likes told of. */
+        private int namedHues;
 
         void read(byte[] bytes, int size, int sort) {
             tape = bytes;
@@ -609,8 +611,9 @@ public final class HueRash {
             at = 0;
             fault = 0;
             faultPlace = NONE;
+            namedHues = 0;
             palette.clear();
-            roll.clear(sort);
+            roll.clear();
             advance();
             boolean formed = true;
             for (int k = 0; k <= TAPE && formed && kind != END; k++) {
@@ -620,7 +623,7 @@ public final class HueRash {
                 // what was noted before counts only if the whole text has its form
                 fault = 1;
                 faultPlace = start;
-            } else if (!palette.hasAll(palette.named)) {
+            } else if (!palette.hasAll(namedHues)) {
                 note(4, length);
             }
         }
@@ -712,7 +715,7 @@ public final class HueRash {
             if (line.sort() == PALETTES) {
                 return palette.rules >= MOST_RULES;
             }
-            return roll.isFull();
+            return roll.size >= ROLL_LIMITS[line.sort()];
         }
 
         private int badPlace(Line line) {
@@ -736,8 +739,10 @@ public final class HueRash {
                 palette.addHue(numbers[0], numbers[1], numbers[2]);
             } else if (line.kind == LIKES) {
                 palette.setLikes(numbers[0], numbers[1], numbers[2]);
+                namedHues |= 1 << numbers[1];
             } else {
                 palette.addRule(line.kind, numbers[0], numbers[1]);
+                namedHues |= line.kind == PAIR ? 1 << numbers[0] | 1 << numbers[1] : 0;
             }
         }
 
@@ -916,8 +921,6 @@ public final class HueRash {
 
         int hues;
         int rules;
-        /** The hues that pairs and likes tell of. */
-        int named;
         final int[] parts = new int[MOST_HUES * PARTS];
         /** Of each rule its sort and its two numbers. */
         final int[] rulings = new int[3 * MOST_RULES];
@@ -934,7 +937,6 @@ public final class HueRash {
         void clear() {
             hues = 0;
             rules = 0;
-            named = 0;
             for (int k = 0; k < likes.length; k++) {
                 likes[k] = 0;
             }
@@ -956,20 +958,15 @@ public final class HueRash {
                 rulings[3 * rules + 2] = y;
                 rules++;
             }
-            if (sort == PAIR) {
-                named |= 1 << x | 1 << y;
-            }
         }
 
         void setLikes(int who, int hue, int much) {
             likes[MOST_HUES * who + hue] = much;
-            named |= 1 << hue;
         }
 
         void copyFrom(Palette other) {
             hues = other.hues;
             rules = other.rules;
-            named = other.named;
             System.arraycopy(other.parts, 0, parts, 0, parts.length);
             System.arraycopy(other.rulings, 0, rulings, 0, rulings.length);
             System.arraycopy(other.likes, 0, likes, 0, likes.length);
@@ -1266,21 +1263,15 @@ public final class HueRash {
         final int[] code = new int[MOST_DEEDS];
         final int[] first = new int[MOST_DEEDS];
         final int[] second = new int[MOST_DEEDS];
-        private int most;
 
-        void clear(int sort) {
+        void clear() {
             size = 0;
             limit = USUAL_LIMIT;
             named = 0;
-            most = ROLL_LIMITS[sort];
         }
 
         boolean has(int k) {
             return k >= 0 && k < size;
-        }
-
-        boolean isFull() {
-            return size >= most;
         }
 
         void name(int hues) {
@@ -1300,7 +1291,6 @@ public final class HueRash {
             size = other.size;
             limit = other.limit;
             named = other.named;
-            most = other.most;
             System.arraycopy(other.code, 0, code, 0, code.length);
             System.arraycopy(other.first, 0, first, 0, first.length);
             System.arraycopy(other.second, 0, second, 0, second.length);

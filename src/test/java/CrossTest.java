@@ -165,8 +165,8 @@ public final class CrossTest {
     }
 
     private void writeDinner(StringBuilder b) {
-        int guests = random.nextInt(12) == 0 ? upTo(9) : upTo(5);
-        int hues = random.nextInt(5) == 0 ? 9 : 3;
+        int guests = random.nextInt(12) == 0 ? upTo(9) : upTo(6);
+        int hues = random.nextInt(10) == 0 ? 9 : 2 + upTo(3);
         int ways = 1;
         for (int k = 0; k < guests; k++) {
             int mask = 1 + random.nextInt((1 << hues + 1) - 1);

@@ -90,6 +90,8 @@ public final class LanguageTest {
                 calls.addAll(Arrays.asList(c.getDeclaredConstructors()));
             }
             for (Executable e : calls) {
+                boolean namesake = c != HueRash.class && (" " + FACE).contains(" " + e.getName() + "(");
+                check(!namesake, "namesake " + e);
                 check(e.getParameterCount() <= 7, "parameters of " + e);
             }
         }

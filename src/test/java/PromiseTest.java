@@ -27,6 +27,7 @@ public final class PromiseTest {
         sights();
         dinners();
         drawn();
+        nothing();
         Probe.finish("PromiseTest");
     }
 
@@ -112,6 +113,21 @@ public final class PromiseTest {
         Probe.due("least number", with("hue 0 0 0;sum 0 1;").palette(0, 4), 2);
         Probe.due("cured dot", with("hue 0 0 0;sum 0 54;cure 0 2;").palette(0, 4), 200);
         Probe.due("like a hue", with("hue 0 0 1;sum 0 0;sum 2 54;").palette(0, 4), 0);
+        Probe.due("the greatest", with("hue 0 0 0;sum 0 26;").palette(0, 4), 999);
+        Probe.due("cured by 9", with("hue 0 0 0;sum 0 54;cure 0 9;").palette(0, 4), 900);
+        Probe.due("cured by yellow", with("hue 0 1 0;sum 0 54;cure 1 10;").palette(0, 4), 90);
+        Probe.due("cured by blue", with("hue 0 1 8;sum 0 54;cure 2 17;").palette(0, 4), 9);
+        x = with("hue 9 0 0;hue 0 0 0;gap 0 9;sum 0 0;sum 27 27;cure 0 10;");
+        Probe.due("dot", x.palette(0, 4), 100);
+        Probe.tape(x, "hue 9 9 9;hue 9 9 9;");
+        Probe.due("text", x.text(0, 0), 0);
+        Probe.due("old rules are gone", x.palette(0, 4), 0);
+        Probe.tape(x, "hue 9 0 0;hue 0 0 0;pair 0 1;");
+        Probe.due("text", x.text(0, 0), 0);
+        Probe.due("old rules are gone", x.palette(0, 4), 0);
+        Probe.tape(x, "hue 0 0 0;hue 9 9 9;pair 0 1;");
+        Probe.due("text", x.text(0, 0), 0);
+        mix(x, 1, 1, 1, 0, 999);
     }
 
     private static void day() {
@@ -388,6 +404,9 @@ public final class PromiseTest {
         HueRash two = with("hue 0 4 0;hue 0 1 0;hue 0 0 0;sum 0 8;sum 10 54;");
         mix(two, 0, 4, 2, 0, 90);
         mix(two, 1, 4, 2, 0, 90);
+        // the last one of all colours, by 9 reds, 9 yellows, 9 blues, less the red that it has
+        mix(with("hue 1 0 0;hue 0 1 0;hue 0 0 1;hue 0 0 0;sum 0 26;"), 0, 8, 26, 0, 999);
+        mix(with("hue 1 0 0;hue 0 1 0;hue 0 0 1;hue 0 0 0;sum 0 27;"), 0, 8, -2, -2, -2);
     }
 
     private static void flags() {
@@ -559,7 +578,7 @@ public final class PromiseTest {
         Object[][] others = {{"guest 0;", 1, 1}, {"guest 0;guest 0;", 1, 1}, {"guest 0;guest 1;", 0, -1},
             {"", 1, 0}, {"guest 0 1 2 3;", 4, 1}, {"guest 1;guest 3;guest 2;", 0, -1},
             {"guest 1;guest 3;guest 2;guest 3;", 1, 3}, {"guest 0 1 2 3;guest 0 1 2 3;", 8, 1},
-            {"guest 1 2;guest 3 1;guest 3;guest 2 1;", 3, 2}};
+            {"guest 1 2;guest 3 1;guest 3;guest 2 1;", 3, 2}, {"guest 1;guest 0 3;guest 0 2;guest 0 3;", 1, 3}};
         Probe.told(x, 4, "", 1);
         for (Object[] o : others) {
             Probe.tape(x, (String) o[0]);
@@ -571,6 +590,12 @@ public final class PromiseTest {
         Probe.due("text", x.text(4, 1), 1);
         Probe.due("no hue 4", x.ways(0, 1), -1);
         Probe.due("no hue 4", x.dinner(0, 1, 0), -1);
+        // the last and the first are neighbours: 0 5 3 5 3 is no way, 0 5 3 5 4 is
+        HueRash round = with("hue 0 0 0;".repeat(6) + "pair 0 3;");
+        Probe.told(round, 4, "guest 0;guest 5;guest 3;guest 5;guest 3 4;", 0);
+        Probe.due("round", round.ways(0, 0), 1);
+        Probe.due("round few", round.dinner(0, 0, 0), 4);
+        Probe.due("round last", round.dinner(0, 0, 14), 4);
         HueRash free = with("hue 0 0 0;".repeat(10));
         Probe.told(free, 4, "guest 0 1 2 3 4 5 6 7 8 9;".repeat(8), 0);
         Probe.due("free ways", free.ways(0, 0), 100000000);
@@ -580,6 +605,33 @@ public final class PromiseTest {
         Probe.due("own hues", free.ways(0, 1), 1);
         Probe.due("own hues", free.dinner(0, 1, 0), 8);
         Probe.due("own hues", free.dinner(0, 1, 13), 6);
+    }
+
+    /** A palette without hues, and with it empty texts. */
+    private static void nothing() {
+        HueRash x = with("");
+        Probe.told(x, 1, "", 0);
+        Probe.told(x, 2, "hour;enter 1 2;hour;wear 1 0;", 0);
+        Probe.told(x, 3, "", 0);
+        Probe.told(x, 4, "", 0);
+        Probe.due("stop", x.stop(0, 0, 0), 3);
+        Probe.due("state", x.state(0, 0, 0, 3, 31), 2);
+        Probe.due("rooms", x.hung(0, 0, 0), 0);
+        Probe.due("rows", x.rows(0, 0), 1);
+        Probe.due("repainted", x.repainted(0, 0, 0), 0);
+        Probe.due("loom", x.loom(0, -1), 1);
+        Probe.due("fits", x.fits(0, 0, -1, 0), 1570);
+        Probe.due("tells", x.fits(0, 0, -1, 1), -1);
+        Probe.due("ways", x.ways(0, 0), 1);
+        Probe.due("few", x.dinner(0, 0, 0), 0);
+        Probe.due("drawn", x.drawn(0, 0, 0, 3, 0), 3);
+        Probe.due("flags", x.flags(0, -1), 0);
+        Probe.due("mix", x.mix(0, 0, 0, 0), -2);
+        Probe.due("spread", x.spread(0, 0, false), -1);
+        Probe.told(x, 1, "picture 0 1;", 1);
+        Probe.due("does not fit", x.rows(0, 1), -1);
+        Probe.told(x, 4, "guest 0;", 1);
+        Probe.due("does not fit", x.ways(0, 1), -1);
     }
 
     private static void drawn() {

@@ -406,5 +406,16 @@ public final class TextTest {
         Probe.due("count", x.count(0), 1);
         Probe.due("tape", x.end(28), 28);
         Probe.due("image 0 anew", x.image(0), true);
+        // the bytes of the tape are in the image, too, and those of the image do not change any more
+        Probe.tape(x, "limit 77;limit 78;limit 79;");
+        Probe.due("image 1", x.image(1), true);
+        Probe.tape(x, "hour;hour;hour;hour;hour;hour;");
+        Probe.due("again 1", x.again(1), true);
+        Probe.due("text", x.text(1, 0), 0);
+        Probe.due("limit", x.gallery(0, 1), 79);
+        Probe.due("again 0", x.again(0), true);
+        Probe.due("text", x.text(0, 0), 0);
+        Probe.due("strength", x.strength(0, 0, 1), 1);
+        Probe.due("limit", x.gallery(0, 1), 10);
     }
 }
