@@ -125,9 +125,13 @@ public final class PromiseTest {
         Probe.tape(x, "hue 9 0 0;hue 0 0 0;pair 0 1;");
         Probe.due("text", x.text(0, 0), 0);
         Probe.due("old rules are gone", x.palette(0, 4), 0);
-        Probe.tape(x, "hue 0 0 0;hue 9 9 9;pair 0 1;");
+        Probe.tape(x, "hue 9 0 0;hue 0 0 0;sum 27 27;");
         Probe.due("text", x.text(0, 0), 0);
-        mix(x, 1, 1, 1, 0, 999);
+        Probe.tape(x, "hue 0 0 0;hue 0 0 0;hue 9 9 9;pair 1 2;");
+        Probe.due("text", x.text(0, 0), 0);
+        mix(x, 2, 2, 1, 0, 999);
+        // 003 comes before 100 by its number, but has more parts
+        Probe.due("fewer parts", with("hue 5 0 0;gap 0 5;cure 2 3;").palette(0, 4), 100);
     }
 
     private static void day() {
