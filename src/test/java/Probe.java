@@ -1,9 +1,15 @@
+import java.lang.reflect.Method;
+import java.lang.reflect.Modifier;
 import java.nio.charset.StandardCharsets;
+import java.util.TreeMap;
+import java.util.TreeSet;
 
-/** What the tests share: counting wrong answers, and telling texts. */
+/** What the tests share: counting wrong answers, telling texts, running all tests of a class by their names. */
 final class Probe {
     private static int wrong;
     private static int asked;
+    /** The test that runs, if it has a name. */
+    private static String test = "";
 
     private Probe() {
     }
@@ -12,7 +18,7 @@ final class Probe {
         asked++;
         if (got != want) {
             wrong++;
-            System.out.println(call + " answered " + got + ", due is " + want);
+            System.out.println(test + call + " answered " + got + ", due is " + want);
         }
     }
 
@@ -51,6 +57,49 @@ final class Probe {
         due("place of " + text, x.fault(1), place);
         due("count after " + text, x.count(sort), fault == 0 ? 1 : 0);
         due("tape after " + text, x.end(1), -1);
+    }
+
+    static void fine(int sort, String text) {
+        faulty(sort, text, 0, -1);
+    }
+
+    /** An object with a text of each sort, the palette first; null: none of that sort. */
+    static HueRash world(String... texts) {
+        HueRash x = new HueRash();
+        for (int sort = 0; sort < texts.length; sort++) {
+            if (texts[sort] != null) {
+                told(x, sort, texts[sort], 0);
+            }
+        }
+        return x;
+    }
+
+    /** Tells a text in the place of another one. */
+    static void retold(HueRash x, int sort, int at, String text) {
+        tape(x, text);
+        due("text in place " + at + ": " + text, x.text(sort, at), at);
+    }
+
+    /** Runs each static method that is named by its promise (p01.. to p33..); answers which promises have one. */
+    static TreeSet<Integer> runNamed(Class<?> tests) throws ReflectiveOperationException {
+        TreeMap<String, Method> named = new TreeMap<>();
+        TreeSet<Integer> promises = new TreeSet<>();
+        for (Method m : tests.getDeclaredMethods()) {
+            boolean own = Modifier.isStatic(m.getModifiers()) && m.getParameterCount() == 0;
+            if (own && m.getName().matches("p[0-9][0-9]_\\w+")) {
+                named.put(m.getName(), m);
+                promises.add(Integer.parseInt(m.getName().substring(1, 3)));
+            }
+        }
+        for (Method m : named.values()) {
+            test = m.getName() + ": ";
+            int before = asked;
+            m.invoke(null);
+            due("asks something", asked > before, true);
+        }
+        test = "";
+        System.out.println(tests.getSimpleName() + ": " + named.size() + " tests");
+        return promises;
     }
 
     static void finish(String test) {
