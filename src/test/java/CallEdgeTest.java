@@ -1309,9 +1309,15 @@ public final class CallEdgeTest {
         Probe.due("flags", x.flags(0, -1), 1);
         Probe.due("ally of 0", x.flags(0, 0), 1);
         Probe.due("ally of 2", x.flags(0, 2), -1);
+        x = Probe.world(BLACK, "picture 0 1;");
+        Probe.due("rooms of one", x.hung(0, 0, 0), 1);
+        Probe.due("flags of one", x.flags(0, -1), 0);
+        Probe.due("ally of one", x.flags(0, 0), -1);
     }
 
     static void p21_theLeastByWhichAsManyCanBe() {
+        // 0 chooses before 1 does, and both bear 2 and 3
+        flags(BLACK.repeat(4) + "pair 0 1;pair 2 3;", 2, 2, 3, 0, 1);
         // 0 bears 1 to 3, 1 bears 0 and 2, 3 bears 0 alone
         flags(BLACK.repeat(4) + "pair 1 3;pair 2 3;", 2, 3, 2, 1, 0);
     }
@@ -1555,6 +1561,11 @@ public final class CallEdgeTest {
         Probe.due("how many", x.fits(0, 0, -1, 0), 55);
         // 0 3: 27 holds by 28, 2 3: 36 by 19, 0 2: 9 by 46: the greater ones are 28, 36, 46
         Probe.due("tells", x.fits(0, 0, -1, 1), 3);
+        // another sight that was asked for before changes nothing
+        x = sight("hue 0 0 0;hue 0 0 0;hue 3 3 3;hue 9 9 9;", "");
+        Probe.told(x, 3, "sneezed 0 1;", 1);
+        Probe.due("all", x.fits(0, 0, -1, 0), 1570);
+        Probe.due("tells", x.fits(0, 1, -1, 1), 3);
     }
 
     static void p26_tellsByEachPart() {
