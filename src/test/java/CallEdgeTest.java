@@ -990,6 +990,13 @@ public final class CallEdgeTest {
             Probe.due("row " + k, x.row(0, 0, k), due[k]);
         }
         Probe.due("rows", x.rows(0, 0), 4);
+        // 0 can't be the first: it must stand between 1 and 2
+        x = Probe.world(BLACK.repeat(3) + "pair 1 2;", "picture 0 1;picture 1 1;picture 2 1;");
+        int[] between = {1, 0, 2};
+        for (int k = 0; k < 3; k++) {
+            Probe.due("row " + k, x.row(0, 0, k), between[k]);
+            Probe.due("thread " + k, x.thread(0, 7, k), between[k]);
+        }
     }
 
     static void p16_asRows() {
@@ -1046,6 +1053,21 @@ public final class CallEdgeTest {
         x = Probe.world("hue 1 2 3;hue 1 2 3;", "picture 1 9;");
         Probe.due("cost", x.repainted(0, 0, 0), 0);
         Probe.due("hue", x.repainted(0, 0, 10), 0);
+    }
+
+    static void p17_tenHues() {
+        // all clash, so all get one hue: 4, in the middle of 0 to 8
+        StringBuilder colours = new StringBuilder("sum 0 54;");
+        StringBuilder pictures = new StringBuilder();
+        for (int h = 0; h < 10; h++) {
+            colours.append("hue ").append(h).append(" 0 0;");
+            pictures.append(h < 9 ? "picture " + h + " 1;" : "");
+        }
+        HueRash x = Probe.world(colours.toString(), pictures.toString());
+        Probe.due("cost", x.repainted(0, 0, 0), 20);
+        for (int k = 0; k < 9; k++) {
+            Probe.due("hue " + k, x.repainted(0, 0, 10 + k), 4);
+        }
     }
 
     static void p17_eachPartsDifference() {
@@ -1223,6 +1245,23 @@ public final class CallEdgeTest {
     static void p20_theMostUnits() {
         mix("hue 1 0 0;hue 0 1 0;hue 0 0 1;hue 0 0 0;sum 0 26;", 0, 8, 26, 0, 999);
         mix("hue 1 0 0;hue 0 1 0;hue 0 0 1;hue 0 0 0;sum 0 27;", 0, 8, -2, -2, -2);
+    }
+
+    static void p20_tenHues() {
+        mix(BLACK.repeat(9) + "hue 0 0 1;sum 0 0;", 0, 2, 1, 9, 1);
+        mix(BLACK.repeat(9) + "hue 0 0 1;sum 0 1;", 0, 2, 2, 9, 2);
+        mix(TEN_HUES + "sum 0 0;", 9, 1, -2, -2, -2);
+    }
+
+    static void p20_neverBehindAnother() {
+        HueRash x = Probe.world("hue 1 0 0;hue 0 0 0;sum 0 9;");
+        Probe.told(x, 0, "hue 0 0 0;hue 0 0 0;sum 0 0;", 1);
+        for (int turn = 0; turn < 2; turn++) {
+            for (int what = 0; what < 3; what++) {
+                Probe.due("ten colours", x.mix(0, 0, 2, what), -2);
+                Probe.due("one colour", x.mix(1, 0, 2, what), -2);
+            }
+        }
     }
 
     static void p20_oneBehindTheOther() {
@@ -1836,6 +1875,12 @@ public final class CallEdgeTest {
         dinner(BLACK.repeat(5) + "pair 0 1;pair 2 3;", "guest 0 2;guest 1 3;guest 0 2;guest 1 3 4;", 4, 2, 0, 3, 0, 3);
         dinner(BLACK.repeat(5) + "pair 0 1;pair 2 3;pair 0 3;", "guest 0 2;guest 1 3;guest 0 2 4;guest 1 3 4;", 4, 2,
             2, 1, 2, 1);
+    }
+
+    static void p29_fewRoundTheTable() {
+        // who wears 2 at first must not wear 3 for the last: 4 hues would do then; ways are 3 4 2 0 5 and 3 4 2 1 5
+        dinner(BLACK.repeat(6) + "pair 0 4;pair 1 3;pair 1 4;pair 2 5;pair 4 5;",
+            "guest 2 3;guest 1 4;guest 2 5;guest 0 1;guest 4 5;", 2, 5, 3, 4, 2, 0, 5);
     }
 
     static void p29_fewWithTheLastHue() {

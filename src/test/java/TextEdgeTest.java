@@ -361,6 +361,15 @@ public final class TextEdgeTest {
         Probe.due("rules", x.palette(0, 1), 0);
         Probe.due("likes", x.palette(0, 201), 0);
         Probe.due("strength", x.strength(0, 0, 1), 0);
+        StringBuilder likes = new StringBuilder(TEN_HUES);
+        for (int k = 0; k < 20; k++) {
+            likes.append("likes ").append(k / 10).append(' ').append(k % 10).append(" 9;");
+        }
+        Probe.told(x, 0, likes.toString(), 1);
+        Probe.retold(x, 0, 1, TEN_HUES);
+        for (int k = 0; k < 20; k++) {
+            Probe.due("likes " + k, x.palette(1, 200 + k), 0);
+        }
         Probe.retold(x, 1, 0, "picture 1 2;");
         Probe.due("limit", x.gallery(0, 1), 10);
         Probe.due("pictures", x.gallery(0, 0), 1);
