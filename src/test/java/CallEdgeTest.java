@@ -809,6 +809,15 @@ public final class CallEdgeTest {
         Probe.due("the middle", Probe.world(THREE, "picture 0 1;picture 2 1;picture 1 1;").hung(0, 0, 2), 4);
     }
 
+    static void p14_curtainsAreTheFewest() {
+        // 3 1 0 2 4 in a row: 1 and 2 are enough; who hides 0 first, that clashes with two, needs three
+        Probe.due("a row of five", Probe.world(BLACK.repeat(5) + "pair 3 1;pair 1 0;pair 0 2;pair 2 4;",
+            "picture 0 1;picture 1 1;picture 2 1;picture 3 1;picture 4 1;").hung(0, 0, 2), 6);
+        // a star: one is enough, also if it is the last
+        Probe.due("a star", Probe.world(BLACK.repeat(5) + "pair 4 1;pair 4 0;pair 4 2;pair 4 3;",
+            "picture 0 1;picture 1 1;picture 2 1;picture 3 1;picture 4 1;").hung(0, 0, 2), 16);
+    }
+
     static void p14_worstOfSeveralTheLeast() {
         Probe.due("two alike", Probe.world(THREE, "picture 0 1;picture 1 1;").hung(0, 0, 3), 0);
         Probe.due("without clashes", Probe.world(THREE, "picture 0 1;picture 2 1;").hung(0, 0, 3), 0);
@@ -823,6 +832,16 @@ public final class CallEdgeTest {
         // an odd round of five needs three
         Probe.due("five round", Probe.world(BLACK.repeat(5) + "pair 0 1;pair 1 2;pair 2 3;pair 3 4;pair 4 0;",
             "picture 0 1;picture 1 1;picture 2 1;picture 3 1;picture 4 1;").hung(0, 0, 0), 3);
+    }
+
+    static void p14_roomsAreTheFewest() {
+        // 0 2 and 1 3; who puts 0 and 3 together, the farthest that bear one another, needs three
+        Probe.due("a row of four", Probe.world(BLACK.repeat(4) + "pair 0 1;pair 1 2;pair 2 3;",
+            "picture 0 1;picture 1 1;picture 2 1;picture 3 1;").hung(0, 0, 0), 2);
+        // 0 2 4 and 1 3 5; who puts 0 and 1 together, the first that bear one another, needs three
+        String six = "pair 0 3;pair 0 5;pair 2 1;pair 2 5;pair 4 1;pair 4 3;";
+        Probe.due("three and three", Probe.world(BLACK.repeat(6) + six,
+            "picture 0 1;picture 1 1;picture 2 1;picture 3 1;picture 4 1;picture 5 1;").hung(0, 0, 0), 2);
     }
 
     static void p14_anotherWhat() {
@@ -1687,6 +1706,15 @@ public final class CallEdgeTest {
         candidate(x, 159, 2, 0, -1);
     }
 
+    static void p26_tellsWhoeverClashes() {
+        // as told by each part: 2 3 is the one, whether all clash, or none, or 0 1 alone
+        String hues = BLACK + BLACK + "hue 9 0 0;hue 4 0 0;";
+        for (String rules : new String[] {"", "sum 0 54;", "sum 0 54;cure 0 1;", "pair 0 1;", "sum 0 54;cure 0 10;"}) {
+            Probe.due("tells by " + rules, sight(hues + rules, "").fits(0, 0, -1, 1), 23);
+            Probe.due("how many by " + rules, sight(hues + rules, "").fits(0, 0, -1, 0), 1570);
+        }
+    }
+
     static void p26_edgesOfCandidates() {
         // together 10, gaps 2 of yellow, like of blue
         HueRash x = sight("hue 0 1 3;hue 0 3 3;hue 0 0 0;", "sneezed 0 1;calm 0 2;");
@@ -1997,5 +2025,156 @@ public final class CallEdgeTest {
         // 10113, then 50283: odd
         Probe.due("second evening", x.drawn(0, 0, 1, 2, 1), 1);
         Probe.due("calm", x.drawn(0, 0, 1, 2, 0), 1);
+    }
+
+    // ---- two of each ----
+
+    private static final String[] PALETTES = {THREE + "likes 0 1 5;",
+        "hue 9 0 0;hue 0 9 0;hue 4 4 4;hue 1 1 1;sum 9 12;gap 0 5;cure 2 8;likes 1 0 7;likes 0 2 9;"};
+    private static final String[] GALLERIES = {"picture 0 4;picture 2 2;limit 0;",
+        "picture 2 1;picture 0 9;picture 1 3;limit 2;"};
+    private static final String[] DAYS = {"hang 0 0;hang 1 0;wear 0 1;enter 0 0;hour;hour;wear 0 3;",
+        "wear 1 2;enter 1 3;hang 1 3;hour;hour;hang 2 3;hour;leave 1;"};
+    private static final String[] SIGHTS = {"sneezed 0 1;", "calm 0 1;sneezed 1 2;"};
+    private static final String[] DINNERS = {"guest 0 1;guest 1 2;guest 0 2;", "guest 1;guest 2 0;"};
+
+    /** A call about a palette, one of another sort, and a day; n is what else it is asked for. */
+    private interface Ask {
+        long of(HueRash x, int palette, int other, int day, int n);
+    }
+
+    private static void tellAll(HueRash x, int palette, int other, int day, int number) {
+        Probe.told(x, 0, PALETTES[palette], number);
+        Probe.told(x, 1, GALLERIES[other], number);
+        Probe.told(x, 2, DAYS[day], number);
+        Probe.told(x, 3, SIGHTS[other], number);
+        Probe.told(x, 4, DINNERS[other], number);
+    }
+
+    /** With two of each sort, each answers as it does alone, and not all of them alike. */
+    private static void eachOfTwo(String call, int from, int to, Ask ask) {
+        HueRash both = new HueRash();
+        tellAll(both, 0, 0, 0, 0);
+        tellAll(both, 1, 1, 1, 1);
+        java.util.Set<String> answers = new java.util.TreeSet<>();
+        for (int which = 0; which < 8; which++) {
+            int palette = which & 1;
+            int other = which >> 1 & 1;
+            int day = which >> 2;
+            HueRash alone = new HueRash();
+            tellAll(alone, palette, other, day, 0);
+            StringBuilder all = new StringBuilder();
+            for (int n = from; n < to; n++) {
+                long due = ask.of(alone, 0, 0, 0, n);
+                Probe.due(call + " of " + palette + " " + other + " " + day + ", " + n,
+                    ask.of(both, palette, other, day, n), due);
+                all.append(due).append(' ');
+            }
+            answers.add(all.toString());
+        }
+        Probe.due("not all alike", answers.size() > 1, true);
+    }
+
+    static void p06_eachOfTwo() {
+        eachOfTwo("palette", 0, 220, (x, p, o, d, n) -> x.palette(p, n));
+    }
+
+    static void p07_eachOfTwo() {
+        eachOfTwo("rule", 0, 9, (x, p, o, d, n) -> x.rule(p, n / 3, n % 3));
+    }
+
+    static void p08_eachOfTwo() {
+        eachOfTwo("strength", 0, 9, (x, p, o, d, n) -> x.strength(p, n / 3, n % 3));
+    }
+
+    static void p09_eachOfTwo() {
+        eachOfTwo("minds", 0, 30, (x, p, o, d, n) -> x.minds(p, n / 10, n % 10, 0, 0));
+    }
+
+    static void p10_eachOfTwo() {
+        eachOfTwo("gallery", 0, 23, (x, p, o, d, n) -> x.gallery(o, n));
+    }
+
+    static void p11_eachOfTwo() {
+        eachOfTwo("deed", -1, 24, (x, p, o, d, n) -> n < 0 ? x.deed(d, -1, 0) : x.deed(d, n / 3, n % 3));
+    }
+
+    static void p12_eachOfTwo() {
+        eachOfTwo("stop", 0, 1, (x, p, o, d, n) -> x.stop(p, o, d));
+    }
+
+    static void p13_eachOfTwo() {
+        for (int deeds = 0; deeds < 9; deeds++) {
+            int many = deeds;
+            eachOfTwo("state", 0, 64, (x, p, o, d, n) -> x.state(p, o, d, n == 0 ? 0 : many, n == 0 ? 20 : n));
+        }
+    }
+
+    static void p14_eachOfTwo() {
+        eachOfTwo("hung", 0, 5, (x, p, o, d, n) -> x.hung(p, o, n));
+    }
+
+    static void p15_eachOfTwo() {
+        eachOfTwo("rows", 0, 1, (x, p, o, d, n) -> x.rows(p, o));
+    }
+
+    static void p16_eachOfTwo() {
+        eachOfTwo("row", 0, 3, (x, p, o, d, n) -> x.row(p, o, n));
+    }
+
+    static void p17_eachOfTwo() {
+        eachOfTwo("repainted", 0, 13, (x, p, o, d, n) -> x.repainted(p, o, n));
+    }
+
+    static void p18_eachOfTwo() {
+        eachOfTwo("loom", 0, 8, (x, p, o, d, n) -> x.loom(p, n));
+    }
+
+    static void p19_eachOfTwo() {
+        eachOfTwo("thread", 0, 24, (x, p, o, d, n) -> x.thread(p, n / 3, n % 3));
+    }
+
+    static void p20_eachOfTwo() {
+        eachOfTwo("mix", 0, 72, (x, p, o, d, n) -> x.mix(p, n / 24, n / 3 % 8, n % 3));
+    }
+
+    static void p21_eachOfTwo() {
+        eachOfTwo("flags", -1, 3, (x, p, o, d, n) -> x.flags(p, n));
+    }
+
+    static void p22_eachOfTwo() {
+        eachOfTwo("gain", 0, 66, (x, p, o, d, n) -> x.gain(p, n % 2, n / 2));
+    }
+
+    static void p23_eachOfTwo() {
+        eachOfTwo("rest", -1, 9, (x, p, o, d, n) -> x.rest(p, n));
+    }
+
+    static void p24_eachOfTwo() {
+        eachOfTwo("spread", 0, 6, (x, p, o, d, n) -> x.spread(p, n / 2, n % 2 == 1));
+    }
+
+    static void p25_eachOfTwo() {
+        eachOfTwo("sneeze", -1, 6, (x, p, o, d, n) -> n < 0 ? x.sneeze(o, -1, 0) : x.sneeze(o, n / 3, n % 3));
+    }
+
+    static void p26_eachOfTwo() {
+        eachOfTwo("fits", -2, 9, (x, p, o, d, n) -> n < 0 ? x.fits(p, o, -1, n + 2) : x.fits(p, o, n / 3, n % 3));
+    }
+
+    static void p27_eachOfTwo() {
+        eachOfTwo("guest", -1, 3, (x, p, o, d, n) -> x.guest(o, n));
+    }
+
+    static void p28_eachOfTwo() {
+        eachOfTwo("ways", 0, 1, (x, p, o, d, n) -> x.ways(p, o));
+    }
+
+    static void p29_eachOfTwo() {
+        eachOfTwo("dinner", 0, 13, (x, p, o, d, n) -> x.dinner(p, o, n));
+    }
+
+    static void p30_eachOfTwo() {
+        eachOfTwo("drawn", 0, 20, (x, p, o, d, n) -> x.drawn(p, o, 7, n / 2, n % 2));
     }
 }

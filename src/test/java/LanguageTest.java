@@ -8,6 +8,8 @@ import java.util.ArrayList;
 import java.util.Arrays;
 import java.util.List;
 import java.util.TreeSet;
+import java.util.regex.Matcher;
+import java.util.regex.Pattern;
 
 /** What can be seen by machine of ../shared/LANGUAGE.md and of the public face. Argument: the source's path. */
 public final class LanguageTest {
@@ -23,6 +25,10 @@ public final class LanguageTest {
     private static final String[] NEVER = {"throw", "try", "catch", "synchronized", "assert", "import", "package",
         "Object", "static {", "->", "::", "finally", "goto", "native", "volatile", "transient", "Exception", "\" +",
         "+ \"", "equals(Object", "hashCode", "toString()", "System.out", "Random", "Thread", "double", "float"};
+
+    private static final List<String> LIBRARY = List.of("Math.abs", "Math.max", "Math.min", "Integer.bitCount",
+        "System.arraycopy", "Line.values");
+    private static final Pattern OF_A_CLASS = Pattern.compile("\\b([A-Z][a-z]+[A-Za-z]*\\.[a-z]\\w*)");
 
     private static int wrong;
 
@@ -113,6 +119,10 @@ public final class LanguageTest {
                 boolean found = letters && !word.contains(" ") && !word.contains("(")
                     ? line.matches(".*\\b" + word.replace(".", "\\.") + "\\b.*") : line.contains(word);
                 check(!found, word + " in line " + (k + 1));
+            }
+            Matcher used = OF_A_CLASS.matcher(line);
+            while (used.find()) {
+                check(LIBRARY.contains(used.group(1)), used.group(1) + " in line " + (k + 1));
             }
             check(lines[k].length() <= 120, "length of line " + (k + 1));
             if (line.matches(" {4,8}\\S.*\\) \\{")) {

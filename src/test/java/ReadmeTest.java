@@ -84,12 +84,28 @@ public final class ReadmeTest {
                 }
             }
         }
-        return "public final class ReadmeExample {\nprivate static int wrong;\n"
-            + "private static void due(String call, Object got, String want) {\n"
-            + "if (!got.toString().equals(want)) {\n"
-            + "wrong++;\nSystem.out.println(\"README.md, \" + call + \" answered \" + got + \", due is \" + want);\n}\n}\n"
-            + members + "public static void main(String[] args) {\n" + steps
-            + "System.out.println(\"ReadmeExample: \" + wrong + \" wrong\");\nif (wrong != 0) {\nSystem.exit(1);\n}\n}\n}\n";
+        return """
+            public final class ReadmeExample {
+                private static int wrong;
+
+                private static void due(String call, Object got, String want) {
+                    if (!got.toString().equals(want)) {
+                        wrong++;
+                        System.out.println("README.md, " + call + " answered " + got + ", due is " + want);
+                    }
+                }
+
+            """ + members + """
+
+                public static void main(String[] args) {
+            """ + steps + """
+                    System.out.println("ReadmeExample: " + wrong + " wrong");
+                    if (wrong != 0) {
+                        System.exit(1);
+                    }
+                }
+            }
+            """;
     }
 
     private static String step(String line, int number) {
@@ -150,19 +166,29 @@ public final class ReadmeTest {
 
     /** Which call answers what, if there is nothing to answer: as the document's promises have it. */
     private static void refusalsAre(String page, List<String> document) {
-        for (String refusal : new String[] {"-2", "-1000", "`false`"}) {
-            TreeSet<String> promised = new TreeSet<>();
-            for (String line : document) {
-                Matcher m = PROMISED.matcher(line);
-                if (m.matches() && m.group(2).matches(".*[ :.]" + refusal.replace("`", "") + "\\b.*")) {
-                    promised.add(m.group(1));
-                }
-            }
-            List<String> told = page.lines().filter(l -> l.startsWith("- " + refusal + " from ")).toList();
-            check(told.size() == 1 && !promised.isEmpty(), "calls that answer " + refusal);
+        TreeSet<String> others = promising("", document);
+        check(others.size() == 32, "promises of calls: " + others.size());
+        for (String refusal : new String[] {"-2", "-1000", "false"}) {
+            List<String> told = page.lines().filter(l -> l.replace("`", "").startsWith("- " + refusal + " from ")).toList();
             TreeSet<String> named = quoted(String.join(" ", told));
             named.remove("false");
+            TreeSet<String> promised = promising(refusal, document);
             check(named.equals(promised), refusal + " from " + named + ", the document has " + promised);
+            others.removeAll(promised);
         }
+        others.removeAll(promising("NONE", document));
+        check(others.isEmpty(), "no NONE from " + others);
+    }
+
+    /** The calls whose promises have that answer. */
+    private static TreeSet<String> promising(String answer, List<String> document) {
+        TreeSet<String> calls = new TreeSet<>();
+        for (String line : document) {
+            Matcher m = PROMISED.matcher(line);
+            if (m.matches() && (answer.isEmpty() || m.group(2).matches(".*[ :.(]" + answer + "\\b.*"))) {
+                calls.add(m.group(1));
+            }
+        }
+        return calls;
     }
 }

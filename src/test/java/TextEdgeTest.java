@@ -49,6 +49,56 @@ public final class TextEdgeTest {
         Probe.due("NONE", HueRash.NONE, -1);
     }
 
+    static void p01_holdsFor512Calls() {
+        HueRash x = new HueRash();
+        int calls = 0;
+        // "hue 1 1 1;limit 20; " is told 36 times as a gallery and refused, then cut and kept
+        for (int turn = 0; turn < 36; turn++) {
+            Probe.due("feed", x.feed(0x68756520, 0x31203120, 0x313b6c69, 0x6d697420, 0x32303b20), 20);
+            Probe.due("text", x.text(1, -1), -1);
+            Probe.due("place", x.fault(1), 0);
+            Probe.due("feed", x.feed(0x68756520, 0x31203120, 0x313b6c69, 0x6d697420, 0x32303b20), 20);
+            Probe.due("end", x.end(10), 10);
+            Probe.due("text", x.text(0, turn < 2 ? -1 : turn % 2), turn % 2);
+            Probe.due("image", x.image(turn % 3), true);
+            Probe.due("again", x.again(turn % 3), true);
+            Probe.due("loom", x.loom(turn % 2, 1), 1);
+            Probe.due("fits", x.fits(turn % 2, 0, -1, 0), -2);
+            Probe.due("flags", x.flags(turn % 2, -1), 0);
+            Probe.due("dot", x.palette(turn % 2, 4), 0);
+            Probe.due("mix", x.mix(turn % 2, 0, 1023, 0), 0);
+            Probe.due("rest", x.rest(turn % 2, -1), 1);
+            calls += 14;
+        }
+        while (calls < 511) {
+            Probe.due("count", x.count(0), 2);
+            calls++;
+        }
+        Probe.due("the 512th", x.palette(1, 102), 1);
+    }
+
+    static void p01_objectsShareNothing() {
+        HueRash x = Probe.world("hue 1 1 1;hue 2 2 2;like 0;", "picture 0 1;", "hour;", "calm 0 1;", "guest 0;");
+        Probe.due("image", x.image(0), true);
+        Probe.told(x, 0, "hue 1;", -1);
+        Probe.tape(x, "hour;");
+        HueRash y = new HueRash();
+        for (int sort = 0; sort < 5; sort++) {
+            Probe.due("none of sort " + sort, y.count(sort), 0);
+        }
+        Probe.due("no image", y.again(0), false);
+        Probe.due("no tape", y.end(1), -1);
+        Probe.due("no fault", y.fault(0), 0);
+        Probe.told(y, 0, "hue 9 9 9;", 0);
+        Probe.due("image", y.image(0), true);
+        Probe.due("fault of the other", x.fault(0), 1);
+        Probe.due("tape of the other", x.end(5), 5);
+        Probe.due("palette of the other", x.palette(0, 100), 1);
+        Probe.due("image of the other", x.again(0), true);
+        Probe.due("palette of its image", x.palette(0, 110), 2);
+        Probe.due("and its strengths", x.hung(0, 0, 0), 1);
+    }
+
     // ---- feed ----
 
     private static HueRash fed(int feeds) {
@@ -1016,6 +1066,59 @@ public final class TextEdgeTest {
         Probe.due("image 0 anew", x.image(0), true);
         Probe.due("again 0", x.again(0), true);
         Probe.due("limit", x.gallery(0, 1), 6);
+    }
+
+    /** What makes them unlike: the limit that is told, the fault, its place, how long the tape is. */
+    private static void standsFor(HueRash x, int k) {
+        x.end(0);
+        Probe.retold(x, 1, 0, "limit " + (20 + k) + ";");
+        Probe.told(x, 0, k == 0 ? "hue 1 1 1;pair 0 1;" : k == 1 ? "cure  3 1;" : "su", -1);
+        Probe.tape(x, "limit 7;".repeat(k + 1));
+    }
+
+    private static void isAsItStoodFor(HueRash x, int k) {
+        Probe.due("limit of " + k, x.gallery(0, 1), 20 + k);
+        Probe.due("fault of " + k, x.fault(0), k == 0 ? 4 : k == 1 ? 2 : 1);
+        Probe.due("place of " + k, x.fault(1), k == 0 ? 19 : k == 1 ? 6 : 0);
+        Probe.due("too much of " + k, x.end(8 * k + 9), -1);
+        Probe.due("tape of " + k, x.end(8 * k + 8), 8 * k + 8);
+    }
+
+    static void p32_whatIsToldStays() {
+        for (int k = 0; k < 3; k++) {
+            HueRash x = Probe.world(null, "");
+            standsFor(x, k);
+            for (int image = -1; image < 4; image++) {
+                Probe.due("image " + image, x.image(image), image >= 0 && image < 3);
+                isAsItStoodFor(x, k);
+            }
+        }
+    }
+
+    static void p32_noImageTouchesAnother() {
+        int[][] orders = {{0, 1, 2}, {0, 2, 1}, {1, 0, 2}, {1, 2, 0}, {2, 0, 1}, {2, 1, 0}};
+        for (int[] order : orders) {
+            HueRash x = Probe.world(null, "");
+            for (int k : order) {
+                standsFor(x, k);
+                Probe.due("image " + k, x.image(k), true);
+            }
+            for (int[] back : orders) {
+                for (int k : back) {
+                    Probe.due("again " + k, x.again(k), true);
+                    isAsItStoodFor(x, k);
+                }
+            }
+            // one of them made anew, as another one is
+            Probe.due("again", x.again(order[0]), true);
+            Probe.due("image anew", x.image(order[2]), true);
+            Probe.due("again", x.again(order[1]), true);
+            isAsItStoodFor(x, order[1]);
+            Probe.due("again", x.again(order[2]), true);
+            isAsItStoodFor(x, order[0]);
+            Probe.due("again", x.again(order[0]), true);
+            isAsItStoodFor(x, order[0]);
+        }
     }
 
     static void p33_noneSuch() {
